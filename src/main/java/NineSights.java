@@ -65,9 +65,9 @@ public final class NineSights {
     private static final int FIRST_SIDE = 18;
 
     private final Tray[] trays = new Tray[MAX_TRAYS];
-    private final Reader reader = new Reader();
-    private final PlainReader plainReader = new PlainReader(reader);
-    private final OrdersReader ordersReader = new OrdersReader(reader);
+    private final byte[] tape = new byte[MAX_TAPE];
+    private final PlainReader plainReader = new PlainReader();
+    private final OrdersReader ordersReader = new OrdersReader();
     private final World now = new World();
     private final World[] marks = new World[MAX_MARKS];
     private final Sights sights = new Sights();
@@ -78,6 +78,7 @@ public final class NineSights {
     private final int[] lastBuilding = {NONE, NONE, NONE};
     private final long[] fraction = {0, 1};
     private final int[] lastFault = {NONE, NONE};
+    private int taped;
     private int markCount;
     private int lastStatus;
 
@@ -160,23 +161,24 @@ public final class NineSights {
     // ---- texts
 
     public int feed(int a, int b, int c, int d, int e) {
-        if (reader.taped + 20 > MAX_TAPE) {
+        if (taped + 20 > MAX_TAPE) {
             return NONE;
         }
-        reader.put(a);
-        reader.put(b);
-        reader.put(c);
-        reader.put(d);
-        reader.put(e);
-        return reader.taped;
+        putBytes(a);
+        putBytes(b);
+        putBytes(c);
+        putBytes(d);
+        putBytes(e);
+        return taped;
     }
 
     public int plain(int n) {
-        if (n < 0 || n > reader.taped) {
+        if (n < 0 || n > taped) {
             return refused(WRONG_NUMBER);
         }
-        boolean taken = plainReader.readPlain(n);
-        tellFault();
+        taped = 0;
+        boolean taken = plainReader.readPlain(tape, n);
+        tellFault(plainReader.reader);
         if (!taken) {
             return refused(FAULTY);
         }
@@ -185,11 +187,12 @@ public final class NineSights {
     }
 
     public int orders(int n) {
-        if (n < 0 || n > reader.taped || n > MAX_ORDERS_TEXT) {
+        if (n < 0 || n > taped || n > MAX_ORDERS_TEXT) {
             return refused(WRONG_NUMBER);
         }
-        boolean taken = ordersReader.readOrders(n, now.plain);
-        tellFault();
+        taped = 0;
+        boolean taken = ordersReader.readOrders(tape, n, now.plain);
+        tellFault(ordersReader.reader);
         if (!taken) {
             return refused(FAULTY);
         }
@@ -628,21 +631,26 @@ public final class NineSights {
         return why == 0;
     }
 
-    private void tellFault() {
+    private void putBytes(int four) {
+        for (int shift = 24; shift >= 0 && taped < MAX_TAPE; shift -= 8) {
+            tape[taped] = (byte) (four >> shift);
+            taped++;
+        }
+    }
+
+    private void tellFault(Reader reader) {
         lastFault[0] = reader.fault;
         lastFault[1] = reader.faultPlace;
     }
 
     private void tellFraction(int upper, int lower) {
-        if (lower <= 0) {
-            return;
-        }
         int divisor = commonDivisor(upper, lower);
-        fraction[0] = upper / divisor;
-        fraction[1] = lower / divisor;
+        if (lower > 0 && divisor > 0) {
+            fraction[0] = upper / divisor;
+            fraction[1] = lower / divisor;
+        }
     }
 
-    /** For a lower above 0 it is above 0 too, so that one may divide by it. */
     private static int commonDivisor(int upper, int lower) {
         int a = lower;
         int b = upper;
@@ -917,7 +925,10 @@ public final class NineSights {
         }
 
         void lookFrom(int side, int[] heights, int[] into, int from) {
-            Arrays.fill(into, from, from + stripsFrom(side), 0);
+            int count = stripsFrom(side);
+            for (int s = 0; s < count; s++) {
+                into[from + s] = 0;
+            }
             for (int c = 0; c < cells; c++) {
                 int place = from + stripAt(side, c);
                 into[place] = Math.max(into[place], heights[c]);
@@ -1143,7 +1154,7 @@ public final class NineSights {
         }
     }
 
-    /** The tape, gone along TOKEN by TOKEN; keeps the first FAULT. */
+    /** Goes along a text TOKEN by TOKEN, and keeps the first FAULT. */
     private static final class Reader {
         static final int AT_END = 0;
         static final int NO_TOKEN = 1;
@@ -1151,7 +1162,6 @@ public final class NineSights {
         static final int NUMBER = 3;
         static final int SIGN = 4;
 
-        int taped;
         int kind;
         int number;
         int sign;
@@ -1160,8 +1170,8 @@ public final class NineSights {
         int taken;
         int fault;
         int faultPlace;
-        private final byte[] text = new byte[MAX_TAPE];
         private final long[] words = new long[WORD_COUNT];
+        private byte[] text = new byte[0];
         private int length;
         private int at;
         private int place;
@@ -1180,17 +1190,9 @@ public final class NineSights {
             }
         }
 
-        void put(int fourBytes) {
-            for (int shift = 24; shift >= 0 && taped < MAX_TAPE; shift -= 8) {
-                text[taped] = (byte) (fourBytes >> shift);
-                taped++;
-            }
-        }
-
-        /** The tape is empty then, but its bytes stay until they are read. */
-        void begin(int n) {
-            length = Math.min(n, taped);
-            taped = 0;
+        void begin(byte[] bytes, int n) {
+            text = bytes;
+            length = Math.min(n, bytes.length);
             at = 0;
             fault = 0;
             faultPlace = NONE;
@@ -1301,17 +1303,13 @@ public final class NineSights {
 
     private static final class PlainReader {
         final Plain made = new Plain();
-        private final Reader reader;
+        final Reader reader = new Reader();
         private int mosts;
         private int leasts;
         private int prices;
 
-        PlainReader(Reader tokens) {
-            reader = tokens;
-        }
-
-        boolean readPlain(int length) {
-            reader.begin(length);
+        boolean readPlain(byte[] text, int length) {
+            reader.begin(text, length);
             mosts = 0;
             leasts = 0;
             prices = 0;
@@ -1412,18 +1410,14 @@ public final class NineSights {
 
     private static final class OrdersReader {
         final Orders made = new Orders();
-        private final Reader reader;
+        final Reader reader = new Reader();
         private final int[] opened = new int[MAX_DEPTH];
         private int depth;
 
-        OrdersReader(Reader tokens) {
-            reader = tokens;
-        }
-
-        boolean readOrders(int length, Plain plain) {
+        boolean readOrders(byte[] text, int length, Plain plain) {
             depth = 0;
             made.begin(true);
-            reader.begin(length);
+            reader.begin(text, length);
             for (int k = 0; k < length && reader.kind != Reader.AT_END; k++) {
                 boolean good = reader.word == END ? readEnd() : openStep() && readRest(plain);
                 if (!good || !reader.takeSemicolon()) {
@@ -1651,7 +1645,7 @@ public final class NineSights {
                     gatherNeedsOf(plain, v, low);
                 }
             }
-            cover.prepare(plain.cells);
+            cover.findForced();
         }
 
         private void gatherNeedsOf(Plain plain, int village, int low) {
@@ -1662,7 +1656,7 @@ public final class NineSights {
             }
             for (int s = 0; s < plain.stripsOf(village); s++) {
                 if ((view[s] & low) == 0) {
-                    cover.require(view[s]);
+                    cover.require(view[s], plain.sides[village] % Cover.DIRECTIONS);
                 }
             }
         }
@@ -1673,7 +1667,7 @@ public final class NineSights {
                 long stone = (long) (caps[c] - plain.least[c]) * plain.price[c];
                 weights[c] = stone << TIE_BITS | 1L << TIE_BITS - 1 - c;
             }
-            long weight = cover.leastWeight(plain.cells, weights);
+            long weight = cover.leastWeight(weights);
             for (int c = 0; c < plain.cells; c++) {
                 boolean raised = (weight >> TIE_BITS - 1 - c & 1) == 1;
                 into[c] = raised ? caps[c] : plain.least[c];
@@ -1683,7 +1677,7 @@ public final class NineSights {
         int fewestRaised(Plain plain) {
             gatherNeeds(plain);
             Arrays.fill(weights, 1L);
-            return (int) cover.leastWeight(plain.cells, weights);
+            return (int) cover.leastWeight(weights);
         }
 
         boolean mustRaise(Plain plain, int cell) {
@@ -1701,23 +1695,26 @@ public final class NineSights {
     }
 
     /**
-     * Needs are sets of CELLS, of each of which one at least must be raised. CELLS are gone
-     * through once; a state is the set of those needs, begun and not yet at their last CELL,
-     * that are met already. Each such need holds a slot (a bit of the state) only so long:
-     * on 5 by 5 CELLS seen from all sides never more than 14 are held at one time. Behind
-     * a CELL's reach, by the slots held there, no state is come to.
+     * Needs are sets of CELLS, of each of which one at least must be raised. Those of one
+     * direction have no CELL in common, as they come from strips side by side.
      */
     private static final class Cover {
         private static final long FAR = 1L << 60;
         private static final long MODULUS = 1_000_007L;
+        private static final int DIRECTIONS = 4;
+        /** By trial of all sizes: of at most 16 strips no more are begun and not ended at one time. */
+        private static final int MAX_SLOTS = 11;
 
         int forced;
         private final int[] needs = new int[MAX_VIEWS];
+        private final int[] directions = new int[MAX_VIEWS];
+        private int count;
+        private final long[] floors = new long[DIRECTIONS];
+        private int narrowest;
+        private long best;
         private final int[] slots = new int[MAX_VIEWS];
         private final int[] reach = new int[MAX_CELLS];
-        private int count;
-        private int size;
-        private long[] states = new long[1];
+        private final long[] states = new long[1 << MAX_SLOTS];
 
         void begin() {
             count = 0;
@@ -1725,7 +1722,7 @@ public final class NineSights {
         }
 
         /** Keeps only needs that no other one lies within: those are met by that one. */
-        void require(int need) {
+        void require(int need, int direction) {
             for (int k = 0; k < count; k++) {
                 if ((needs[k] & need) == needs[k]) {
                     return;
@@ -1734,21 +1731,129 @@ public final class NineSights {
             int kept = 0;
             for (int k = 0; k < count; k++) {
                 if ((needs[k] & need) != need) {
-                    needs[kept] = needs[k];
+                    move(k, kept);
                     kept++;
                 }
             }
             count = kept;
             if (count < MAX_VIEWS) {
                 needs[count] = need;
+                directions[count] = direction;
                 count++;
             }
         }
 
-        void prepare(int cells) {
-            dropForced();
+        private void move(int from, int to) {
+            needs[to] = needs[from];
+            directions[to] = directions[from];
+        }
+
+        /** Needs of one CELL go; that CELL lies in no other need, as such a one was not kept. */
+        void findForced() {
+            int kept = 0;
+            for (int k = 0; k < count; k++) {
+                if (Integer.bitCount(needs[k]) == 1) {
+                    forced |= needs[k];
+                } else {
+                    move(k, kept);
+                    kept++;
+                }
+            }
+            count = kept;
+        }
+
+        // the least weight of CELLS by which all needs are met
+
+        long leastWeight(long[] weights) {
+            long spent = 0;
+            for (int c = 0; c < MAX_CELLS; c++) {
+                spent += (forced >> c & 1) == 1 ? weights[c] : 0;
+            }
+            best = FAR;
+            search(weights, forced, 0, spent, 0);
+            return best;
+        }
+
+        /** One CELL is raised at each depth; those tried ahead of it stay low behind it. */
+        private void search(long[] weights, int raised, int low, long spent, int depth) {
+            if (depth > MAX_CELLS || spent + floorOf(weights, raised, low) >= best) {
+                return;
+            }
+            int left = narrowest;
+            if (left == 0) {
+                best = spent;
+                return;
+            }
+            int tried = low;
+            for (int k = 0; k < MAX_CELLS && left != 0; k++) {
+                int cell = lightest(weights, left);
+                search(weights, raised | 1 << cell, tried, spent + weights[cell], depth + 1);
+                tried |= 1 << cell;
+                left &= ~(1 << cell);
+            }
+        }
+
+        /**
+         * What is spent at least on needs that are not met: in one direction no CELL serves
+         * two of them. Leaves the one with the fewest CELLS left, or nothing, in narrowest.
+         */
+        private long floorOf(long[] weights, int raised, int low) {
+            Arrays.fill(floors, 0L);
+            narrowest = 0;
+            for (int k = 0; k < count; k++) {
+                if ((needs[k] & raised) == 0) {
+                    int left = needs[k] & ~low;
+                    if (left == 0) {
+                        return FAR;
+                    }
+                    if (narrowest == 0 || Integer.bitCount(left) < Integer.bitCount(narrowest)) {
+                        narrowest = left;
+                    }
+                    floors[directions[k]] += weights[lightest(weights, left)];
+                }
+            }
+            return Math.max(Math.max(floors[0], floors[1]), Math.max(floors[2], floors[3]));
+        }
+
+        private static int lightest(long[] weights, int cells) {
+            int rest = cells;
+            int found = NONE;
+            for (int k = 0; k < MAX_CELLS && rest != 0; k++) {
+                int cell = Integer.numberOfTrailingZeros(rest);
+                if (found == NONE || weights[cell] < weights[found]) {
+                    found = cell;
+                }
+                rest &= rest - 1;
+            }
+            return Math.max(found, 0);
+        }
+
+        // how many ways there are to meet them: CELLS are gone through once; a state is the
+        // set of needs, begun and not yet at their last CELL, that are met already
+
+        /** below: in how many ways a CELL may be lower than raised. */
+        long countWays(int cells, long[] below) {
+            if (!holdSlots(cells)) {
+                return 0;
+            }
+            Arrays.fill(states, 0L);
+            states[0] = 1;
+            long free = 1;
+            for (int c = 0; c < cells; c++) {
+                int met = slotsMet(c);
+                if (met != 0) {
+                    raiseOrNot(met, below[c], reach[c]);
+                    closeSlots(slotsClosing(c), reach[c]);
+                } else if ((forced >> c & 1) == 0) {
+                    free = free * (below[c] + 1) % MODULUS;
+                }
+            }
+            return free * states[0] % MODULUS;
+        }
+
+        /** A need has a slot, a bit of the state, from its first CELL to its last. */
+        private boolean holdSlots(int cells) {
             int held = 0;
-            size = 1;
             for (int c = 0; c < cells; c++) {
                 for (int k = 0; k < count; k++) {
                     if (Integer.numberOfTrailingZeros(needs[k]) == c) {
@@ -1756,26 +1861,13 @@ public final class NineSights {
                         held |= 1 << slots[k];
                     }
                 }
+                if (held >= 1 << MAX_SLOTS) {
+                    return false;
+                }
                 reach[c] = 1 << 32 - Integer.numberOfLeadingZeros(held);
-                size = Math.max(size, reach[c]);
                 held &= ~slotsClosing(c);
             }
-            if (states.length < size) {
-                states = new long[size];
-            }
-        }
-
-        private void dropForced() {
-            int kept = 0;
-            for (int k = 0; k < count; k++) {
-                if (Integer.bitCount(needs[k]) == 1) {
-                    forced |= needs[k];
-                } else {
-                    needs[kept] = needs[k];
-                    kept++;
-                }
-            }
-            count = kept;
+            return true;
         }
 
         private int slotsClosing(int cell) {
@@ -1795,49 +1887,8 @@ public final class NineSights {
             return met;
         }
 
-        long leastWeight(int cells, long[] weights) {
-            Arrays.fill(states, 0, size, FAR);
-            states[0] = 0;
-            long sure = 0;
-            for (int c = 0; c < cells; c++) {
-                sure += (forced >> c & 1) == 1 ? weights[c] : 0;
-                int met = slotsMet(c);
-                if (met != 0) {
-                    raiseOrLeave(met, weights[c], reach[c]);
-                    closeSlots(slotsClosing(c), FAR, reach[c]);
-                }
-            }
-            return sure + states[0];
-        }
-
         /** From above downward, so that no state gets the same CELL twice. */
-        private void raiseOrLeave(int met, long weight, int within) {
-            for (int state = within - 1; state >= 0; state--) {
-                long raised = states[state] + weight;
-                if (raised < states[state | met]) {
-                    states[state | met] = raised;
-                }
-            }
-        }
-
-        /** How many ways there are, if a CELL may be below its CAP in so many ways. */
-        long countWays(int cells, long[] below) {
-            Arrays.fill(states, 0, size, 0L);
-            states[0] = 1;
-            long free = 1;
-            for (int c = 0; c < cells; c++) {
-                int met = slotsMet(c);
-                if (met != 0) {
-                    countRaised(met, below[c], reach[c]);
-                    closeSlots(slotsClosing(c), 0L, reach[c]);
-                } else if ((forced >> c & 1) == 0) {
-                    free = free * (below[c] + 1) % MODULUS;
-                }
-            }
-            return free * states[0] % MODULUS;
-        }
-
-        private void countRaised(int met, long below, int within) {
+        private void raiseOrNot(int met, long below, int within) {
             for (int state = within - 1; state >= 0; state--) {
                 long ways = states[state];
                 if (ways != 0) {
@@ -1848,12 +1899,12 @@ public final class NineSights {
         }
 
         /** States in which a need stays unmet behind its last CELL lead nowhere. */
-        private void closeSlots(int closing, long nowhere, int within) {
+        private void closeSlots(int closing, int within) {
             if (closing == 0) {
                 return;
             }
             for (int state = 0; state < within; state++) {
-                states[state] = (state & closing) == 0 ? states[state | closing] : nowhere;
+                states[state] = (state & closing) == 0 ? states[state | closing] : 0;
             }
         }
     }
