@@ -302,6 +302,10 @@ public final class PromisesTest {
         faultOfPlain("size 1 1;village a n sees 100;", 4, 26);
         faultOfPlain("size 1 1;most 1;most 1;", 6, 16);
         faultOfPlain("size 1 1;least 1 1;", 6, 17);
+        faultOfPlain("size 1 1;least 1 0;", 6, 17);
+        faultOfPlain("size 1 1;most 1 99;", 6, 16);
+        faultOfPlain("size 1 1;price 1 1;", 6, 17);
+        faultOfPlain("size 1 1;price 1 0;", 4, 17);
         faultOfPlain("size 2 1;village a e sees 1 1;", 6, 28);
         String six = "size 1 1;village a n;village b n;village c n;village d n;village e n;";
         faultOfPlain(six, 2, 65);
@@ -538,7 +542,7 @@ public final class PromisesTest {
     private static void dearAndCheap() {
         begin(27);
         is("plain", plain("size 2 2;most 9 4;least 0 2;price 1 5;village a s sees 5 4;village b w sees 5 3;"), 4);
-        is("b barred", x.can(3), 1);
+        is("both can be kept", x.can(3), 1);
         is("largest", x.largest(3), 5 + 2 * 5 + 3 + 3);
         townIs(5, 4, 3, 3);
         no("set 4", x.largest(4), 2);
