@@ -182,6 +182,14 @@ public final class KeptEdgeTest extends Bench {
         is("the last row", x.height(20), 99);
         promise = 27;
         is("by none: the MOST", x.largest(0), 25 * 99 * 99);
+        promise = 28;
+        is("plain", plain("size 5 5;" + ("price" + times(5, 1) + ";").repeat(4) + "price 1 1 1 1 2;village a n sees 1 1 1 1 1;"), 25);
+        is("the last CELL is dearer", x.cheapest(1), 5);
+        townIs(0, 0, 0, 0, 0, 0, 0, 0, 0, 0, 0, 0, 0, 0, 0, 0, 0, 0, 0, 1, 1, 1, 1, 1, 0);
+        is("plain", plain("size 5 5;" + ("price" + times(5, 9) + ";").repeat(4) + "price 9 9 9 9 8;village a n sees 1 1 1 1 1;"), 25);
+        is("the last CELL is cheaper", x.cheapest(1), 44);
+        townIs(0, 0, 0, 0, 0, 0, 0, 0, 0, 0, 0, 0, 0, 0, 0, 0, 0, 0, 0, 0, 1, 1, 1, 1, 1);
+        promise = 27;
         is("plain", plain("size 2 1;most 5 0;least 5 0;village a s sees 5 0;"), 2);
         is("no room", x.largest(1), 0);
         promise = 28;
@@ -321,6 +329,63 @@ public final class KeptEdgeTest extends Bench {
         return count;
     }
 
+    /** Ones to be seen from every choice of SIDES with at most 16 strips, on every size. */
+    private static void allStripsOfAtMostSixteen() {
+        begin(31);
+        for (int cells = 11; cells <= 55; cells++) {
+            int w = cells / 10;
+            int h = cells % 10;
+            for (int sides = 0; sides < 16 && h >= 1 && h <= 5; sides++) {
+                String text = "size " + w + " " + h + ";" + ("most" + times(w, 1) + ";").repeat(h);
+                int strips = 0;
+                for (int k = 0; k < 4; k++) {
+                    if ((sides >> k & 1) == 1) {
+                        int many = k == 0 ? w : k == 2 ? h : w + h - 1;
+                        strips += many;
+                        text += "village v" + (char) ('a' + k) + " " + SIDES[k] + " sees" + times(many, 1) + ";";
+                    }
+                }
+                is(text, plain(text), w * h);
+                int all = (1 << Integer.bitCount(sides)) - 1;
+                if (strips > 16) {
+                    due(text, x.towns(all), -1);
+                    due(text + ": too many strips", x.status(), 7);
+                } else {
+                    is(text, x.towns(all), onesInEachStrip(w, h, sides));
+                }
+            }
+        }
+    }
+
+    /** All zeros and ones, less those in which a strip has none, and so on by turns. */
+    private static long onesInEachStrip(int w, int h, int sides) {
+        int[] strips = new int[16];
+        int many = 0;
+        for (int k = 0; k < 4; k++) {
+            for (int key = -4; key <= 8 && (sides >> k & 1) == 1; key++) {
+                int strip = 0;
+                for (int c = 0; c < w * h; c++) {
+                    int[] keys = {c % w, c % w + c / w, c / w, c % w - c / w};
+                    strip |= keys[k] == key ? 1 << c : 0;
+                }
+                if (strip != 0) {
+                    strips[many] = strip;
+                    many++;
+                }
+            }
+        }
+        long count = 0;
+        for (int set = 0; set < 1 << many; set++) {
+            int without = 0;
+            for (int k = 0; k < many; k++) {
+                without |= (set >> k & 1) == 1 ? strips[k] : 0;
+            }
+            long ways = 1L << w * h - Integer.bitCount(without);
+            count += Integer.bitCount(set) % 2 == 0 ? ways : -ways;
+        }
+        return count % 1000007;
+    }
+
     private static void whatIsLeft() {
         begin(31);
         is("plain", plain("size 3 1;"), 3);
@@ -409,7 +474,51 @@ public final class KeptEdgeTest extends Bench {
         is("none, they CAN be", x.struck(), 0);
     }
 
+    /** Six VILLAGES with nine strips each: as many promises as there can be. */
+    private static void fullPlain() {
+        begin(25);
+        String six = "size 5 5;";
+        for (int v = 0; v < 6; v++) {
+            six += "village v" + (char) ('a' + v) + " " + SIDES[v * 2 % 8 + 1] + " sees" + times(9, 1) + ";";
+        }
+        is("plain", plain(six), 25);
+        is("all CAN be KEPT", x.can(63), 1);
+        promise = 27;
+        is("all at 1", x.largest(63), 25);
+        promise = 22;
+        no("all is SEEN as promised", () -> x.otherwise(0), 8);
+        promise = 28;
+        // the four corners, each alone in a slant, and 2 and 4 CELLS for the slants of even and of odd sums that are left
+        is("ten", x.cheapest(63), 4 + 2 + 4);
+        promise = 30;
+        is("all others", x.courts(63), 15);
+        promise = 33;
+        is("none to strike", x.struck(), 0);
+        promise = 42;
+        is("highest", x.highest(), 99);
+        promise = 41;
+        fill(0, 1, 1, 1, 1, 1, 1, 1, 1, 1);
+        is("like", x.like(0, 9), 1);
+        promise = 35;
+        is("the middle is none of them", x.instead(12), 10);
+        no("a corner stands alone", () -> x.instead(24), 9);
+        is("plain", plain(six.substring(0, six.length() - 2) + "2;"), 25);
+        promise = 26;
+        is("the last strip of the last VILLAGE", x.barred(63, 1) * 9 + x.barred(63, 2), 53);
+        promise = 33;
+        is("it alone is struck", x.struck(), 32);
+        promise = 22;
+        x.tray(0, 0, 25);
+        for (int c = 0; c < 25; c++) {
+            x.write(0, c, 1);
+        }
+        is("all at 1", x.buildAll(0));
+        is("the last VILLAGE", x.otherwise(0), 5);
+        is("the last strip", x.otherwise(1), 8);
+    }
+
     public static void main(String[] args) {
+        fullPlain();
         setsWithOthers();
         noSuchCell();
         caps();
@@ -421,6 +530,7 @@ public final class KeptEdgeTest extends Bench {
         leastLeavesTheTown();
         courts();
         sixteenStrips();
+        allStripsOfAtMostSixteen();
         whatIsLeft();
         sure();
         struck();

@@ -72,6 +72,29 @@ public final class TextsEdgeTest extends Bench {
         is("the PLAIN stays", x.many(0), 1);
     }
 
+    /** What lies behind the first n bytes, even in the midst of a TOKEN, is none of the text. */
+    private static void noneBehindTheFirst() {
+        begin(10);
+        String[] tapes = {"size 1 1;most 5;", "size 1 23;", "size 1 1;least 12345;", "size 1 1;village ab n;village abc n;",
+            "size 1 1;village ab n;village abc n;", "size 1 1;village a ne;", "size 1 1;village abcdefghi n;", "size 1 1;;"};
+        int[] firsts = {12, 8, 19, 32, 33, 20, 25, 9};
+        int[] kinds = {2, 2, 4, 3, 2, 2, 2, 0};
+        int[] places = {9, 8, 15, 30, 33, 20, 25, -1};
+        for (int k = 0; k < tapes.length; k++) {
+            feed(tapes[k]);
+            due(tapes[k], x.plain(firsts[k]), kinds[k] == 0 ? 1 : -1);
+            due(tapes[k] + ": fault", x.fault(0), kinds[k]);
+            due(tapes[k] + ": place", x.fault(1), places[k]);
+        }
+        feed("storm 10;");
+        due("storm 1", x.orders(7), -1);
+        due("2", x.fault(0), 2);
+        due("at 7", x.fault(1), 7);
+        feed("stopp;");
+        due("stop", x.orders(4), -1);
+        due("at 4", x.fault(1), 4);
+    }
+
     private static void takenInPlaceOfThatAhead() {
         begin(10);
         is("a large one", plain("size 5 5;most 1 2 3 4 5;least 1 1 1 1 1;price 9 9 9 9 9;"
@@ -290,6 +313,15 @@ public final class TextsEdgeTest extends Bench {
                 }
             }
         }
+        String six = "size 5 5;";
+        for (int v = 0; v < 6; v++) {
+            six += "village v" + (char) ('a' + v) + " " + SIDES[v * 2 % 8 + 1] + " sees" + times(8, v) + " 9;";
+        }
+        takenAsPlain(six, 25);
+        for (int v = 0; v < 6; v++) {
+            is("nine strips of each of six", x.promised(v, 7), v);
+            is("nine strips of each of six", x.promised(v, 8), 9);
+        }
         faultOfPlain("size 1 1;village a n sees 100;", 4, 26);
         faultOfPlain("size 1 1;village a n sees", 2, 25);
         faultOfPlain("size 1 1;village a n sees a;", 2, 26);
@@ -373,6 +405,10 @@ public final class TextsEdgeTest extends Bench {
         faultOfOrders(full + "stop;end;end;end;", 6, full.length());
         String tens = "when same a;".repeat(3) + "end;".repeat(3);
         takenAsOrders(tens.repeat(6), 18);
+        String thirtyEnds = "loop9;end;".repeat(30);
+        due("300 bytes", thirtyEnds.length(), 300);
+        takenAsOrders(thirtyEnds, 30);
+        is("each with its end", x.built(0), 30);
     }
 
     private static void withinThreeOthers() {
@@ -569,6 +605,7 @@ public final class TextsEdgeTest extends Bench {
         twentyBytes();
         atMost900();
         firstBytesOfTheTape();
+        noneBehindTheFirst();
         takenInPlaceOfThatAhead();
         everyByte();
         asLongAsTheyGo();
