@@ -1953,12 +1953,17 @@ public final class NineSights {
         }
 
         private int behindStep(Orders orders, Plain plain, int[] heights, int a) {
+            int where = orders.where[a];
             switch (orders.act[a]) {
                 case RAISE:
-                    lay(heights, orders.where[a], orders.number[a]);
+                    if (plain.hasCell(where)) {
+                        lay(heights, where, orders.number[a]);
+                    }
                     return a + 1;
                 case LOWER:
-                    take(heights, orders.where[a], orders.number[a]);
+                    if (plain.hasCell(where)) {
+                        take(heights, where, orders.number[a]);
+                    }
                     return a + 1;
                 case STORM:
                     rage(heights, plain.cells, orders.number[a]);
@@ -2001,12 +2006,13 @@ public final class NineSights {
             int number = orders.number[a];
             switch (orders.test[a]) {
                 case CELL:
-                    return compares(heights[where], sign, number);
+                    return plain.hasCell(where) && compares(heights[where], sign, number);
                 case SEES:
                     return plain.hasStrip(where, orders.strip[a])
                         && compares(plain.sightOf(where, orders.strip[a], heights), sign, number);
                 case SAME:
-                    return plain.hasSky(where) && plain.firstUnlikeStrip(where, heights) == NONE;
+                    return plain.hasVillage(where) && plain.hasSky(where)
+                        && plain.firstUnlikeStrip(where, heights) == NONE;
                 default:
                     return compares(plain.stoneOf(heights), sign, number);
             }

@@ -1,3 +1,6 @@
+import java.util.ArrayList;
+import java.util.List;
+
 /** Boundaries of promises 24 to 33: promises, whether they CAN be KEPT, and by which TOWNS. */
 public final class KeptEdgeTest extends Bench {
     private static final String SIX = "size 2 1;village a s sees 3 4;village b s;village c n sees 4 3;village d w sees 4;"
@@ -329,58 +332,71 @@ public final class KeptEdgeTest extends Bench {
         return count;
     }
 
-    /** Ones to be seen from every choice of SIDES with at most 16 strips, on every size. */
+    /** Ones to be seen from every choice of SIDES, on every size; corners that stand alone are seen as ones, or as 0. */
     private static void allStripsOfAtMostSixteen() {
         begin(31);
-        for (int cells = 11; cells <= 55; cells++) {
-            int w = cells / 10;
-            int h = cells % 10;
-            for (int sides = 0; sides < 16 && h >= 1 && h <= 5; sides++) {
-                String text = "size " + w + " " + h + ";" + ("most" + times(w, 1) + ";").repeat(h);
-                int strips = 0;
-                for (int k = 0; k < 4; k++) {
-                    if ((sides >> k & 1) == 1) {
-                        int many = k == 0 ? w : k == 2 ? h : w + h - 1;
-                        strips += many;
-                        text += "village v" + (char) ('a' + k) + " " + SIDES[k] + " sees" + times(many, 1) + ";";
-                    }
-                }
-                is(text, plain(text), w * h);
-                int all = (1 << Integer.bitCount(sides)) - 1;
-                if (strips > 16) {
-                    due(text, x.towns(all), -1);
-                    due(text + ": too many strips", x.status(), 7);
-                } else {
-                    is(text, x.towns(all), onesInEachStrip(w, h, sides));
-                }
+        for (int size = 0; size < 25; size++) {
+            for (int sides = 0; sides < 16; sides++) {
+                townsOfOnes(1 + size % 5, 1 + size / 5, sides, 1);
+                townsOfOnes(1 + size % 5, 1 + size / 5, sides, 0);
             }
         }
     }
 
-    /** All zeros and ones, less those in which a strip has none, and so on by turns. */
-    private static long onesInEachStrip(int w, int h, int sides) {
-        int[] strips = new int[16];
-        int many = 0;
+    private static void townsOfOnes(int w, int h, int sides, int corners) {
+        StringBuilder text = new StringBuilder("size " + w + " " + h + ";" + ("most" + times(w, 1) + ";").repeat(h));
+        List<Integer> ones = new ArrayList<>();
+        int cells = (1 << w * h) - 1;
+        int strips = 0;
         for (int k = 0; k < 4; k++) {
-            for (int key = -4; key <= 8 && (sides >> k & 1) == 1; key++) {
-                int strip = 0;
-                for (int c = 0; c < w * h; c++) {
-                    int[] keys = {c % w, c % w + c / w, c / w, c % w - c / w};
-                    strip |= keys[k] == key ? 1 << c : 0;
+            if ((sides >> k & 1) == 1) {
+                text.append("village v").append((char) ('a' + k)).append(' ').append(SIDES[k]).append(" sees");
+                for (int strip : stripsFrom(k, w, h)) {
+                    boolean corner = k % 2 == 1 && Integer.bitCount(strip) == 1;
+                    text.append(' ').append(corner ? corners : 1);
+                    cells &= corner && corners == 0 ? ~strip : -1;
+                    strips++;
+                    if (!corner || corners == 1) {
+                        ones.add(strip);
+                    }
                 }
-                if (strip != 0) {
-                    strips[many] = strip;
-                    many++;
-                }
+                text.append(';');
             }
         }
-        long count = 0;
-        for (int set = 0; set < 1 << many; set++) {
-            int without = 0;
-            for (int k = 0; k < many; k++) {
-                without |= (set >> k & 1) == 1 ? strips[k] : 0;
+        is(text.toString(), plain(text.toString()), w * h);
+        int all = (1 << Integer.bitCount(sides)) - 1;
+        if (strips > 16) {
+            no(text + ": too many strips", () -> x.towns(all), 7);
+        } else {
+            is(text.toString(), x.towns(all), onesInEach(ones, cells));
+        }
+    }
+
+    /** The CELLS of each strip from n, ne, e or se, as sets, in their order. */
+    private static List<Integer> stripsFrom(int side, int w, int h) {
+        List<Integer> strips = new ArrayList<>();
+        for (int key = 8; key >= -8; key--) {
+            int strip = 0;
+            for (int c = 0; c < w * h; c++) {
+                int[] keys = {c % w, c % w + c / w, c / w, c / w - c % w};
+                strip |= keys[side] == key ? 1 << c : 0;
             }
-            long ways = 1L << w * h - Integer.bitCount(without);
+            if (strip != 0) {
+                strips.add(strip);
+            }
+        }
+        return strips;
+    }
+
+    /** All zeros and ones, less those in which a strip has no one, and so on by turns. */
+    private static long onesInEach(List<Integer> strips, int cells) {
+        long count = 0;
+        for (int set = 0; set < 1 << strips.size(); set++) {
+            int zeros = 0;
+            for (int k = 0; k < strips.size(); k++) {
+                zeros |= (set >> k & 1) == 1 ? strips.get(k) : 0;
+            }
+            long ways = 1L << Integer.bitCount(cells & ~zeros);
             count += Integer.bitCount(set) % 2 == 0 ? ways : -ways;
         }
         return count % 1000007;

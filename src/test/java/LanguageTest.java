@@ -140,6 +140,58 @@ public final class LanguageTest {
         due(counted[0] <= 300 && counted[1] <= 40000, "the room of one object");
     }
 
+    /** No call makes an object: all calls of a run live in the room that the constructor took. */
+    private static void callsMakeNothing() {
+        NineSights x = new NineSights();
+        String text = "size 5 5; village a n sees 1 1 1 1 1; village b e sees 1 1 1 1 1; village c ne; village d nw;";
+        String steps = "loop 9; storm 9; when sees a at 1 > 0; raise 1 1; end; end;";
+        long[] taken = new long[2];
+        for (int turn = 0; turn < 2; turn++) {
+            feed(x, text);
+            x.plain(text.length());
+            feed(x, steps);
+            long before = allocated();
+            x.orders(steps.length());
+            x.tray(0, 0, 50);
+            askAll(x);
+            taken[turn] = allocated() - before;
+        }
+        System.out.println("bytes made by calls: " + taken[1]);
+        due(taken[1] < 2000, "rule 12: calls make " + taken[1] + " bytes");
+    }
+
+    private static long allocated() {
+        return ((com.sun.management.ThreadMXBean) java.lang.management.ManagementFactory.getThreadMXBean()).getCurrentThreadAllocatedBytes();
+    }
+
+    private static void askAll(NineSights x) {
+        for (int set = 0; set < 16; set++) {
+            x.largest(set);
+            x.cheapest(set);
+            x.least(set);
+            x.courts(set);
+            x.towns(set);
+            x.sure(set, 12, 0);
+            x.barred(set, 0);
+            x.instead(set);
+            x.down(set);
+            x.write(0, set, set % 3);
+            x.order(0);
+            x.apart(0, 0, set % 4);
+            x.watchers(0, 2);
+            x.tenth(0, 5);
+            x.like(0, 5);
+            x.built(set);
+            x.tally(set, 30);
+            x.mark();
+            x.struck();
+            x.highest();
+            x.otherwise(0);
+            x.back();
+            x.pour(0, 0, 0, 1, 9);
+        }
+    }
+
     private static void count(Object o, Map<Object, Boolean> met, long[] counted) throws Exception {
         if (o == null || met.put(o, true) != null) {
             return;
@@ -167,6 +219,7 @@ public final class LanguageTest {
         face();
         words();
         room();
+        callsMakeNothing();
         System.out.println(wrong == 0 ? "the rules are kept" : wrong + " rules are broken");
         if (wrong != 0) {
             System.exit(1);

@@ -64,6 +64,19 @@ public final class TraysEdgeTest extends Bench {
         due("the first one has its own", first.many(0), 2);
     }
 
+    /** "used for at most 512 calls": the 512th is answered as the first ones are. */
+    private static void fiveHundredTwelveCalls() {
+        begin(1);
+        is("tray", x.tray(0, 3, 60));
+        for (int call = 2; call <= 508; call++) {
+            x.write(0, call % 60, call);
+        }
+        due("the 509th", x.read(0, 508 % 60), 508);
+        due("the 510th", x.mark(), 1);
+        due("the 511th", x.many(3), -1);
+        due("the 512th", x.status(), 5);
+    }
+
     // ---- promise 2
 
     private static void statusIsOfTheLatestCallThatHasOne() {
@@ -348,6 +361,7 @@ public final class TraysEdgeTest extends Bench {
         newObjectHasNothing();
         newObjectAnswersOfNothing();
         objectsAreApart();
+        fiveHundredTwelveCalls();
         statusIsOfTheLatestCallThatHasOne();
         fractionHasNoCommonDivisor();
         trayOfSoMany();
